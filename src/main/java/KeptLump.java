@@ -343,7 +343,7 @@ public final class KeptLump {
             return refusal;
         }
         Shelf row = shelves[d];
-        read(row.elements, row.size);
+        reader.read(row.elements, row.size, state);
         if (reader.faultTold() != 0) {
             return reader.faultTold();
         }
@@ -352,8 +352,7 @@ public final class KeptLump {
     }
 
     public int one() {
-        read(state.law.text, state.law.size);
-        return reader.held;
+        return reader.read(state.law.text, state.law.size, state);
     }
 
     public int worth(int lump) {
@@ -372,11 +371,10 @@ public final class KeptLump {
             return FAR_BELOW + refusal;
         }
         Shelf row = shelves[d];
-        read(row.elements, row.size);
+        int inMind = state.lumps.weight[lump] - reader.read(row.elements, row.size, state);
         if (reader.faultTold() != 0) {
             return FAR_BELOW + reader.faultTold();
         }
-        int inMind = state.lumps.weight[lump] - reader.held;
         return inMind - worth(lump);
     }
 
@@ -743,11 +741,6 @@ public final class KeptLump {
                 net.bound(LUMPS + l, l, least, greatest);
             }
         }
-    }
-
-    private void read(int[] text, int size) {
-        reader.start(text, size, state);
-        reader.readAll();
     }
 
     private boolean arePairs(Shelf row) {
@@ -1377,7 +1370,7 @@ public final class KeptLump {
     private static final class Reader {
         private static final int DEEPEST = 6;
 
-        int[] text;
+        final int[] text = new int[ELEMENTS];
         int size;
         int place;
         /** The place of the first byte with which no words can go on, or -1. */
@@ -1394,8 +1387,18 @@ public final class KeptLump {
         int others;
         int copies;
 
+        /** What one is by a text; only where it has no fault. */
+        int read(int[] itsText, int itsSize, State state) {
+            start(itsText, itsSize, state);
+            statement();
+            for (int k = 0; k < ELEMENTS && fault < 0 && place < size; k++) {
+                statement();
+            }
+            return held;
+        }
+
         void start(int[] itsText, int itsSize, State state) {
-            text = itsText;
+            System.arraycopy(itsText, 0, text, 0, itsSize);
             size = itsSize;
             place = 0;
             fault = -1;
@@ -1415,13 +1418,6 @@ public final class KeptLump {
                 return -1000 - fault;
             }
             return yearFault >= 0 ? -2000 - yearFault : 0;
-        }
-
-        void readAll() {
-            statement();
-            for (int k = 0; k < ELEMENTS && fault < 0 && place < size; k++) {
-                statement();
-            }
         }
 
         void statement() {
@@ -1470,30 +1466,22 @@ public final class KeptLump {
         }
 
         int atom(int depth) {
-            if (isAt('(')) {
-                return inBrackets(depth + 1);
+            if (isAt('(') && depth < DEEPEST) {
+                place++;
+                int value = sum(depth + 1);
+                expect(')');
+                return value;
             }
             if (isAtDigit()) {
                 return number();
             }
-            int value = isAt('P') ? prime : isAt('m') ? sisters : isAt('o') ? others : copies;
+            int mean = isAt('P') ? prime : isAt('m') ? sisters : isAt('o') ? others : copies;
             if (isAt('P') || isAt('m') || isAt('o') || isAt('c')) {
                 place++;
-                return value;
+                return mean;
             }
             stop();
             return 0;
-        }
-
-        int inBrackets(int depth) {
-            if (depth > DEEPEST) {
-                stop();
-                return 0;
-            }
-            place++;
-            int value = sum(depth);
-            expect(')');
-            return value;
         }
 
         int number() {

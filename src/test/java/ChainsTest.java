@@ -63,6 +63,9 @@ public final class ChainsTest {
         Check.due("the other way", x.agree(2, 0), 0);
         Check.due("one twice", x.agree(0, 0), -1);
         Check.due("one without links twice", x.agree(3, 3), -1);
+        Check.due("just, so none is wrong", x.wrong(0, 1, 0), -3);
+        Check.due("one lacks", x.wrong(0, 2, 0), 1);
+        Check.due("one lacks, of the second", x.wrong(0, 2, 1), 1);
         Check.due("no links", x.agree(0, 3), -4);
         Check.due("no links, the other way", x.agree(3, 0), -4);
         Check.due("4", x.agree(0, 4), -1);
@@ -119,6 +122,12 @@ public final class ChainsTest {
         x.link(3, 99, 0, 140);
         Check.due("0 and 1", x.when(6), 50);
         Check.due("none with 5", x.when(5), -4);
+        x = new KeptLump();
+        x.link(0, 0, 0, 140);
+        x.link(1, 1, 0, 0);
+        Check.due("one lacks", x.when(0), -4);
+        x.link(1, -1, 0, 0);
+        Check.due("in the last year", x.when(0), 140);
     }
 
     private static KeptLump planned() {

@@ -111,11 +111,13 @@ public final class LumpsTest {
         x.lump(0, 0, 5);
         x.set(1, 2, 7);
         Check.due("wash", x.wash(0, 2), -2);
+        Check.due("washed once in", x.of(0, 4), 0);
         Check.due("wash again", x.wash(0, 0), -12);
         Check.due("washed in", x.of(0, 4), 0);
         Check.due("how often", x.of(0, 5), 2);
         x.go(3);
-        Check.due("wash later", x.wash(0, 2), -19);
+        x.set(1, 3, 7);
+        Check.due("wash later", x.wash(0, 3), -19);
         Check.due("washed in later", x.of(0, 4), 3);
         Check.due("its kind stays", x.of(0, 0), 0);
         Check.due("no such lump", x.wash(1, 0), NO);

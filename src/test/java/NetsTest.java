@@ -9,6 +9,7 @@ public final class NetsTest {
         apartRefused();
         longApart();
         longApartOfOthers();
+        longApartOfMany();
         longApartRefused();
         fits();
         needed();
@@ -111,6 +112,27 @@ public final class NetsTest {
         Check.due("the prime grew by 99", x.longApart(2, 0, 1, 1, 1), -99 * 50);
     }
 
+    /** Twenty weighings, each in a year of its own: as many knots as there can be. */
+    private static void longApartOfMany() {
+        KeptLump x = new KeptLump();
+        Check.lumps(x, 0, 2);
+        x.set(2, 0, 0);
+        x.set(3, 0, 1);
+        for (int w = 0; w < 20; w++) {
+            Check.tell(x, 3 * w + 1, 0, 1, 3 * w, 0);
+        }
+        // Each time 0 grew by 3 and 1 by 0, as it must.
+        Check.due("0 grew", x.longApart(0, 58, 0, 1, 0), 57);
+        Check.due("1 was still", x.longApart(1, 58, 1, 1, 1), 0);
+        Check.due("ahead and behind, least", x.longApart(0, 0, 1, 140, 0), -1 - 82);
+        Check.due("ahead and behind, greatest", x.longApart(0, 0, 1, 140, 1), 0);
+        Check.due("the other way", x.longApart(1, 0, 0, 140, 1), -57);
+        Check.due("fits", x.fits(-1), 1);
+        x.set(2, 0, 1);
+        Check.due("both must grow", x.fits(-1), 0);
+        Check.due("none alone", x.needed(), -4);
+    }
+
     private static void longApartRefused() {
         KeptLump x = new KeptLump();
         Check.lumps(x, 0, 2);
@@ -164,6 +186,9 @@ public final class NetsTest {
         x.out(1, true);
         Check.due("fits", x.needed(), -3);
         x.out(1, false);
+        x.out(0, true);
+        Check.due("without what doesn't matter", x.needed(), 1);
+        x.out(0, false);
         x.out(2, true);
         x.out(3, true);
         Check.tell(x, 2, 0, 1, 100, 0);

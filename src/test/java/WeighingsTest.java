@@ -36,6 +36,12 @@ public final class WeighingsTest {
         Check.due("and again", x.of(1, 3), 28);
         Check.due("others cost nothing", x.of(0, 3), 100);
         Check.due("z moved, without doubt too", x.seed(0), -1770082073);
+        x = new KeptLump();
+        x.lump(10, 0, 30);
+        x.lump(70, 0, 0);
+        x.weigh(1, 0, 0, 0);
+        Check.due("a prime that is lump 0 is touched", x.of(0, 3), 29);
+        Check.due("and counted", x.touches(), 2);
     }
 
     private static void weighRefused() {

@@ -65,6 +65,7 @@ public final class WordsTest {
 
     private static void faultsOfYears() {
         Check.due("141", told("141:P;"), -2000);
+        Check.due("141, then 142", told("141:P;142:P;"), -2000);
         Check.due("the first of two", told("140:P;142:P;141:P;"), -2006);
         Check.due("999", told("0:1;999:1;"), -2004);
         Check.due("a fault of kind 1 goes ahead", told("141:P;x"), -1006);
