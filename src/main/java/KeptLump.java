@@ -19,6 +19,11 @@ public final class KeptLump {
     /** Added to a refusal where the answer itself may be below 0. */
     private static final int FAR_BELOW = -1000000000;
 
+    /** All bits of an int but its sign's. */
+    private static final int NUMBER_BITS = 0x7fffffff;
+    /** A bound that isn't there. */
+    private static final int UNBOUND = 0x7fffffff;
+
     private static final int LAST_YEAR = 140;
     private static final int LUMPS = 10;
     private static final int LANDS = 6;
@@ -456,10 +461,10 @@ public final class KeptLump {
             return NO_PLACE;
         }
         planner.tell(state.lumps, row, doubt, n);
-        if (!planner.begin(state)) {
+        if (!planner.learn(state)) {
             return CANNOT_BE;
         }
-        planner.search(0, 0, 0, 0);
+        planner.choose();
         return what == 0 ? planner.bestBits : planner.bestSum;
     }
 
@@ -689,7 +694,7 @@ public final class KeptLump {
             return FAR_BELOW + AT_ODDS;
         }
         int above = what == 1 ? net.greatestOf(a, b) : net.greatestOf(b, a);
-        if (above == Net.UNBOUND) {
+        if (above == UNBOUND) {
             return FAR_BELOW + NONE;
         }
         return what == 1 ? above : -above;
@@ -799,7 +804,7 @@ public final class KeptLump {
 
         int draw(int doubt) {
             z = z * 1103515245 + 12345;
-            return (z & Integer.MAX_VALUE) / 65536 % (2 * doubt + 1) - doubt;
+            return (z & NUMBER_BITS) / 65536 % (2 * doubt + 1) - doubt;
         }
 
         void takeFrom(State other) {
@@ -990,8 +995,10 @@ public final class KeptLump {
             System.arraycopy(other.second, 0, second, 0, WEIGHINGS);
             System.arraycopy(other.answer, 0, answer, 0, WEIGHINGS);
             System.arraycopy(other.doubt, 0, doubt, 0, WEIGHINGS);
-            System.arraycopy(other.isOut, 0, isOut, 0, WEIGHINGS);
             System.arraycopy(other.touchedIn, 0, touchedIn, 0, WEIGHINGS);
+            for (int w = 0; w < WEIGHINGS; w++) {
+                isOut[w] = other.isOut[w];
+            }
             many = other.many;
             touched = other.touched;
         }
@@ -1140,7 +1147,7 @@ public final class KeptLump {
             if (sort == BYTES) {
                 return -128;
             }
-            return sort == SHORTS ? -32768 : Integer.MIN_VALUE;
+            return sort == SHORTS ? -32768 : -2147483648;
         }
 
         /** Whether one of the five elements from i on is the least number of their sort. */
@@ -1185,7 +1192,6 @@ public final class KeptLump {
      * the knot it goes to can be, less the one it comes from. A way round whose length is below 0 can't be.
      */
     private static final class Net {
-        static final int UNBOUND = Integer.MAX_VALUE;
         /** Two knots a weighing and two asked for. */
         static final int KNOTS = 2 * WEIGHINGS + 2;
         /** Two edges for each weighing, and two for each growth from one knot to the next. */
@@ -1439,7 +1445,7 @@ public final class KeptLump {
             }
         }
 
-        int sum(int depth) {
+        private int sum(int depth) {
             int sum = product(depth);
             for (int k = 0; k < ELEMENTS && (isAt('+') || isAt('-')); k++) {
                 boolean isMore = isAt('+');
@@ -1450,7 +1456,7 @@ public final class KeptLump {
             return sum;
         }
 
-        int product(int depth) {
+        private int product(int depth) {
             int product = atom(depth);
             for (int k = 0; k < ELEMENTS && (isAt('*') || isAt('/')); k++) {
                 boolean isTimes = isAt('*');
@@ -1465,7 +1471,7 @@ public final class KeptLump {
             return divisor == 0 ? 0 : n / divisor;
         }
 
-        int atom(int depth) {
+        private int atom(int depth) {
             if (isAt('(') && depth < DEEPEST) {
                 place++;
                 int value = sum(depth + 1);
@@ -1522,13 +1528,14 @@ public final class KeptLump {
         }
     }
 
-    /** Tries the pairs told, one more at each level, on top of the net of now. */
+    /** Tries all choices of the pairs told, each on top of the net of now. */
     private static final class Planner {
-        private static final int UNBOUND = Integer.MAX_VALUE;
         private static final int WIDEST = 9999;
 
-        /** For each level, at a times LUMPS and b: the greatest that b less a can be. */
-        final int[][] far = new int[PLANNED + 1][LUMPS * LUMPS];
+        /** By the net of now, at a times LUMPS and b: the greatest that b less a can be. */
+        final int[] known = new int[LUMPS * LUMPS];
+        /** The same with the pairs that are tried. */
+        final int[] tried = new int[LUMPS * LUMPS];
         final int[] first = new int[PAIRS];
         final int[] second = new int[PAIRS];
         final int[] answer = new int[PAIRS];
@@ -1557,27 +1564,25 @@ public final class KeptLump {
             }
         }
 
-        /** Makes the first level from the net of now; false: it is at odds. */
-        boolean begin(State state) {
-            bestSum = UNBOUND;
-            bestMany = 0;
-            bestBits = 0;
-            Arrays.fill(far[0], UNBOUND);
+        /** Takes in the net of now; false: it is at odds. */
+        boolean learn(State state) {
+            Arrays.fill(known, UNBOUND);
             for (int l = 0; l < LUMPS; l++) {
-                far[0][l * LUMPS + l] = 0;
+                known[l * LUMPS + l] = 0;
             }
             Weighings weighings = state.weighings;
             for (int w = 0; w < weighings.many; w++) {
-                if (weighings.counts(w, state.now) && !narrowByWeighing(weighings, w)) {
+                if (weighings.counts(w, state.now) && !learnOne(weighings, w)) {
                     return false;
                 }
             }
             return true;
         }
 
-        boolean narrowByWeighing(Weighings weighings, int w) {
-            return narrow(far[0], weighings.second[w], weighings.first[w], weighings.greatest(w))
-                && narrow(far[0], weighings.first[w], weighings.second[w], -weighings.least(w));
+        boolean learnOne(Weighings weighings, int w) {
+            int a = weighings.first[w];
+            int b = weighings.second[w];
+            return narrow(known, b, a, weighings.greatest(w)) && narrow(known, a, b, -weighings.least(w));
         }
 
         /** Takes in that b less a is most at most; false: then it is at odds. */
@@ -1608,49 +1613,64 @@ public final class KeptLump {
             }
         }
 
-        /** What is at odds stays so with more pairs, so these are not tried. */
-        void search(int next, int level, int bits, int touching) {
-            judge(level, bits);
-            if (level >= PLANNED) {
-                return;
-            }
-            for (int i = next; i < pairs; i++) {
-                int touchingThen = isTouching[i] ? touching + 1 : touching;
-                if (touchingThen <= mostTouching && addPair(level, i)) {
-                    search(i + 1, level + 1, bits | 1 << i, touchingThen);
+        /** Goes up through the bits, so that of equally good choices the least bits stay. */
+        void choose() {
+            bestSum = UNBOUND;
+            bestMany = 0;
+            bestBits = 0;
+            for (int bits = 0; bits < 1 << pairs; bits++) {
+                if (isAllowed(bits) && tries(bits)) {
+                    judge(bits);
                 }
             }
         }
 
-        boolean addPair(int level, int i) {
-            int[] table = far[level + 1];
-            System.arraycopy(far[level], 0, table, 0, LUMPS * LUMPS);
-            return narrow(table, second[i], first[i], answer[i] + doubt)
-                && narrow(table, first[i], second[i], doubt - answer[i]);
+        boolean isAllowed(int bits) {
+            int touching = 0;
+            for (int i = 0; i < pairs; i++) {
+                if (has(bits, i) && isTouching[i]) {
+                    touching++;
+                }
+            }
+            return touching <= mostTouching && Integer.bitCount(bits) <= PLANNED;
         }
 
-        void judge(int many, int bits) {
-            int sum = widths(far[many]);
-            if (isBetter(sum, many, bits)) {
+        boolean has(int bits, int i) {
+            return (bits >> i & 1) == 1;
+        }
+
+        /** Makes the table with these pairs; false: with them it is at odds. */
+        boolean tries(int bits) {
+            System.arraycopy(known, 0, tried, 0, LUMPS * LUMPS);
+            for (int i = 0; i < pairs; i++) {
+                if (has(bits, i) && !tryOne(i)) {
+                    return false;
+                }
+            }
+            return true;
+        }
+
+        boolean tryOne(int i) {
+            return narrow(tried, second[i], first[i], answer[i] + doubt)
+                && narrow(tried, first[i], second[i], doubt - answer[i]);
+        }
+
+        void judge(int bits) {
+            int sum = widths();
+            int many = Integer.bitCount(bits);
+            if (sum < bestSum || sum == bestSum && many < bestMany) {
                 bestSum = sum;
                 bestMany = many;
                 bestBits = bits;
             }
         }
 
-        boolean isBetter(int sum, int many, int bits) {
-            if (sum != bestSum) {
-                return sum < bestSum;
-            }
-            return many != bestMany ? many < bestMany : bits < bestBits;
-        }
-
-        int widths(int[] table) {
+        int widths() {
             int sum = 0;
             for (int a = 0; a < lumps; a++) {
                 for (int b = a + 1; b < lumps; b++) {
-                    int there = table[a * LUMPS + b];
-                    int back = table[b * LUMPS + a];
+                    int there = tried[a * LUMPS + b];
+                    int back = tried[b * LUMPS + a];
                     boolean isBounded = there != UNBOUND && back != UNBOUND;
                     sum += isBounded ? Math.min(there + back, WIDEST) : WIDEST;
                 }
