@@ -62,24 +62,39 @@ public final class ImageTest {
         x.words(0);
     }
 
-    private static void all() {
+    private static KeptLump filled() {
         KeptLump x = new KeptLump();
         fill(x);
         x.row(0, 0, 0);
-        String ahead = Check.all(x);
         Check.due("image", x.image(), 3);
-        Check.due("an image changes nothing", Check.all(x), ahead);
+        return x;
+    }
+
+    private static KeptLump changed() {
+        KeptLump x = filled();
         change(x);
         x.row(0, 0, 0);
-        String changed = Check.all(x);
-        Check.due("it changed", changed.equals(ahead) ? 1 : 0, 0);
-        Check.due("restore", x.restore(), 3);
-        Check.due("all is as it was", Check.all(x), ahead);
-        change(x);
-        x.row(0, 0, 0);
-        Check.due("it goes on as it did", Check.all(x), changed);
-        Check.due("restore again", x.restore(), 3);
-        Check.due("the image stays", Check.all(x), ahead);
+        return x;
+    }
+
+    private static void all() {
+        Bounds.same("an image changes nothing", ImageTest::filled, KeptLump::image);
+        Bounds.same("all is as it was", ImageTest::filled, x -> {
+            change(x);
+            x.row(0, 0, 0);
+            Check.due("restore", x.restore(), 3);
+        });
+        Bounds.same("it goes on as it did", ImageTest::changed, x -> {
+            x.restore();
+            change(x);
+            x.row(0, 0, 0);
+        });
+        Bounds.same("the image stays", ImageTest::filled, x -> {
+            x.restore();
+            change(x);
+            x.row(0, 0, 0);
+            x.restore();
+        });
     }
 
     private static void shelvesStay() {

@@ -12,7 +12,6 @@ public final class LumpsTest {
         go();
         grows();
         growsByWashing();
-        refusedChangesNothing();
         Check.end("LumpsTest");
     }
 
@@ -195,27 +194,5 @@ public final class LumpsTest {
             Check.due("washed in 10, year " + (9 + k), x.grows(0, 9 + k), due[k]);
         }
         Check.due("the washing ahead is past", x.grows(0, 0), 4);
-    }
-
-    private static void refusedChangesNothing() {
-        KeptLump x = new KeptLump();
-        x.lump(10, 1, 2);
-        x.lump(50, 2, 3);
-        String ahead = Check.all(x);
-        x.lump(10, 1, 1);
-        x.lump(99, 1, 1);
-        x.set(0, 9, 9);
-        x.set(2, 0, 50);
-        x.wash(0, 9);
-        x.wash(2, 0);
-        x.go(0);
-        x.go(99);
-        Check.due("refused calls", Check.all(x), ahead);
-        x.go(40);
-        x.go(40);
-        x.go(40);
-        ahead = Check.all(x);
-        x.go(30);
-        Check.due("beyond 140", Check.all(x), ahead);
     }
 }

@@ -1,9 +1,16 @@
 import java.util.Random;
 
-/** Long runs of calls, by a seed that is always the same, each answer as SlowLump has it; a refused call changes nothing. */
+/**
+ * Runs of calls, by a seed that is always the same, each answer as SlowLump has it. In some runs each question and
+ * each refused call is looked at: with it and without it the object must be the same (Bounds tells how).
+ */
 public final class RandomTest {
-    private static final int RUNS = 1200;
-    private static final int CALLS = 400;
+    private static final int RUNS = 4000;
+    private static final int LOOKED_AT = 60;
+    /** A new row, filled, and then some: the most that one step calls, so that no object gets more than 512. */
+    private static final int DEAREST = 112;
+    private static final int CALLS = 512 - DEAREST;
+    private static final int CALLS_LOOKED_AT = 60;
 
     private final Random random;
     private final KeptLump x = new KeptLump();
@@ -13,6 +20,9 @@ public final class RandomTest {
     private int toldAt;
     private int wordsAt;
     private int pairsAt;
+    private int used;
+    /** Whether the last call must have changed nothing. */
+    private boolean isStill;
 
     private RandomTest(int run) {
         random = new Random(7919L * run + 1);
@@ -23,11 +33,66 @@ public final class RandomTest {
         for (int run = 0; run < RUNS; run++) {
             RandomTest test = new RandomTest(run);
             test.begin();
-            for (int k = 0; k < CALLS; k++) {
-                test.call(run + "." + k + " ", run % 10 == 0);
+            for (int k = 0; test.used < CALLS; k++) {
+                test.call(run + "." + k + " ");
             }
         }
+        for (int run = 0; run < LOOKED_AT; run++) {
+            lookAt(run);
+        }
         Check.end("RandomTest");
+    }
+
+    private static void lookAt(int run) {
+        RandomTest test = new RandomTest(run);
+        test.begin();
+        for (int k = 0; test.used < CALLS_LOOKED_AT; k++) {
+            test.call(run + "." + k + " ");
+            if (test.isStill) {
+                int steps = k;
+                Check.due(run + "." + k + " nothing has changed",
+                    Bounds.looks(() -> after(run, steps + 1)), Bounds.looks(() -> after(run, steps)));
+            }
+        }
+    }
+
+    /** The object of a run as it is behind so many steps. */
+    private static KeptLump after(int run, int steps) {
+        RandomTest test = new RandomTest(run);
+        test.begin();
+        for (int k = 0; k < steps; k++) {
+            test.call(run + "." + k + " ");
+        }
+        return test.x;
+    }
+
+    /** An answer to a question, or of a call that has changed something. */
+    private void same(String call, long got, long want) {
+        used++;
+        Check.due(call, got, want);
+    }
+
+    private void asked(String call, long got, long want) {
+        same(call, got, want);
+        isStill = true;
+    }
+
+    private void askedElement(String call, int d, int i) {
+        used++;
+        Check.due(call, Check.element(x, d, i), y.element(d, i));
+        isStill = true;
+    }
+
+    /** The answer of a call that changes something if it is not refused. */
+    private void done(String call, long got, long want) {
+        same(call, got, want);
+        isStill = want < 0 && want >= -3000;
+    }
+
+    /** The same of calls that may answer numbers below 0. */
+    private void doneFar(String call, long got, long want) {
+        same(call, got, want);
+        isStill = want == -1000000001;
     }
 
     private void begin() {
@@ -36,7 +101,7 @@ public final class RandomTest {
             int told = 10 * random.nextInt(8) + random.nextInt(6);
             int rate = near(-9, 9);
             int weight = random.nextInt(4) == 0 ? near(-9999, 9999) : near(-20, 20);
-            Check.due("lump", x.lump(told, rate, weight), y.lump(told, rate, weight));
+            same("lump", x.lump(told, rate, weight), y.lump(told, rate, weight));
         }
     }
 
@@ -63,7 +128,7 @@ public final class RandomTest {
     }
 
     private int lump() {
-        return near(0, Math.max(0, x.count(1) - 1));
+        return near(0, Math.max(0, y.count(1) - 1));
     }
 
     private int shelf() {
@@ -77,150 +142,138 @@ public final class RandomTest {
 
     /** Few years, so that weighings meet. */
     private int year() {
-        if (random.nextInt(3) > 0 && x.count(2) > 0) {
-            return x.weighing(random.nextInt(x.count(2)), 0);
+        if (random.nextInt(3) > 0 && y.count(2) > 0) {
+            return y.weighing(random.nextInt(y.count(2)), 0);
         }
-        return random.nextInt(6) == 0 ? near(0, 140) : random.nextInt(3) == 0 ? x.count(0) : near(0, 5);
+        return random.nextInt(6) == 0 ? near(0, 140) : random.nextInt(3) == 0 ? y.count(0) : near(0, 5);
     }
 
     private int doubt() {
         return random.nextInt(3) == 0 ? near(0, 99) : near(0, 6);
     }
 
-    private void call(String at, boolean looks) {
-        String ahead = looks ? Check.all(x) : "";
-        long before = x.count(0);
-        String got = "";
+    private void call(String at) {
+        isStill = false;
         switch (random.nextInt(20)) {
             case 0:
-                got = lumpsAndYears(at);
+                lumpsAndYears(at);
                 break;
             case 1:
             case 2:
-                got = weighings(at);
+                weighings(at);
                 break;
             case 3:
                 fillRow(at);
-                return;
+                break;
             case 4:
                 fillTold(at);
-                return;
+                break;
             case 5:
                 fillWords(at);
-                return;
+                break;
             case 6:
                 fillPairs(at);
-                return;
+                break;
             case 7:
             case 8:
             case 9:
             case 10:
                 nets(at);
-                got = looks ? Check.all(x) : "";
                 break;
             case 11:
             case 12:
-                got = wordsAndWorth(at);
+                wordsAndWorth(at);
                 break;
             case 13:
             case 14:
-                got = chains(at);
+                chains(at);
                 break;
             case 15:
                 plan(at);
-                got = looks ? Check.all(x) : "";
                 break;
             case 16:
-                got = imageAndCount(at);
+                imageAndCount(at);
                 break;
             default:
-                got = shelves(at);
+                shelves(at);
                 break;
         }
-        boolean refused = got.equals("refused");
-        if (looks && refused) {
-            Check.due(at + "a refused call changes nothing, year " + before, Check.all(x), ahead);
-        } else if (looks && got.startsWith("count")) {
-            Check.due(at + "a question changes nothing", got, ahead);
-        }
     }
 
-    private String due(String call, long got, long want) {
-        Check.due(call, got, want);
-        return want <= -1000000001L && want >= -1000003000L || want < 0 && want >= -3000 ? "refused" : "";
-    }
-
-    private String lumpsAndYears(String at) {
+    private void lumpsAndYears(String at) {
         int a = lump();
         switch (random.nextInt(6)) {
             case 0: {
                 int told = 10 * near(0, 7) + near(0, 5);
                 int rate = near(-9, 9);
                 int weight = near(-9999, 9999);
-                return due(at + "lump " + told, x.lump(told, rate, weight), y.lump(told, rate, weight));
+                done(at + "lump " + told, x.lump(told, rate, weight), y.lump(told, rate, weight));
+                break;
             }
             case 1: {
                 int what = near(0, 3);
                 int i = what >= 2 ? near(0, 0) : near(0, 5);
                 int n = what == 0 ? near(0, 9) : what == 1 ? near(0, 99) : near(-20, 20);
-                int got = x.set(what, i, n);
-                Check.due(at + "set " + what + " " + i + " " + n, got, y.set(what, i, n));
-                return got == -1000000001 ? "refused" : "";
+                doneFar(at + "set " + what + " " + i + " " + n, x.set(what, i, n), y.set(what, i, n));
+                break;
             }
             case 2: {
                 int hand = near(0, 3);
-                int got = x.wash(a, hand);
-                Check.due(at + "wash", got, y.wash(a, hand));
-                return got == -1000000001 ? "refused" : "";
+                doneFar(at + "wash", x.wash(a, hand), y.wash(a, hand));
+                break;
             }
             case 3: {
                 int n = random.nextInt(3) == 0 ? near(1, 40) : near(1, 3);
-                return due(at + "go " + n, x.go(n), y.go(n));
+                done(at + "go " + n, x.go(n), y.go(n));
+                break;
             }
             case 4: {
                 int year = near(0, 140);
-                Check.due(at + "grows", x.grows(a, year), y.grows(a, year));
-                return "";
+                asked(at + "grows", x.grows(a, year), y.grows(a, year));
+                break;
             }
             default: {
                 int what = near(0, 5);
-                Check.due(at + "of", x.of(a, what), y.of(a, what));
-                return "";
+                asked(at + "of", x.of(a, what), y.of(a, what));
+                break;
             }
         }
     }
 
-    private String weighings(String at) {
-        int w = near(0, Math.max(0, x.count(2) - 1));
+    private void weighings(String at) {
+        int w = near(0, Math.max(0, y.count(2) - 1));
         switch (random.nextInt(6)) {
             case 0: {
                 int n = random.nextInt();
-                Check.due(at + "seed", x.seed(n), y.seed(n));
-                return "";
+                same(at + "seed", x.seed(n), y.seed(n));
+                break;
             }
             case 1: {
                 int a = lump();
                 int b = lump();
                 int warm = near(-9, 9);
                 int doubt = doubt();
-                return due(at + "weigh " + a + " " + b, x.weigh(a, b, warm, doubt), y.weigh(a, b, warm, doubt));
+                done(at + "weigh " + a + " " + b, x.weigh(a, b, warm, doubt), y.weigh(a, b, warm, doubt));
+                break;
             }
             case 2: {
                 int d = shelf(toldAt);
-                return due(at + "hear", x.hear(d), y.hear(d));
+                done(at + "hear", x.hear(d), y.hear(d));
+                break;
             }
             case 3: {
                 int what = near(0, 5);
-                Check.due(at + "weighing", x.weighing(w, what), y.weighing(w, what));
-                return "";
+                asked(at + "weighing", x.weighing(w, what), y.weighing(w, what));
+                break;
             }
             case 4: {
                 boolean is = random.nextInt(3) > 0;
-                return due(at + "out", x.out(w, is), y.out(w, is));
+                done(at + "out", x.out(w, is), y.out(w, is));
+                break;
             }
             default:
-                Check.due(at + "touches", x.touches(), y.touches());
-                return "";
+                asked(at + "touches", x.touches(), y.touches());
+                break;
         }
     }
 
@@ -232,55 +285,56 @@ public final class RandomTest {
         int what = near(0, 1);
         switch (random.nextInt(6)) {
             case 0:
-                Check.due(at + "apart", x.apart(a, b, year, what), y.apart(a, b, year, what));
+                asked(at + "apart", x.apart(a, b, year, what), y.apart(a, b, year, what));
                 break;
             case 1:
-                Check.due(at + "longApart", x.longApart(a, year, b, later, what), y.longApart(a, year, b, later, what));
+                asked(at + "longApart", x.longApart(a, year, b, later, what), y.longApart(a, year, b, later, what));
                 break;
             case 2: {
                 int which = random.nextBoolean() ? -1 : year;
-                Check.due(at + "fits", x.fits(which), y.fits(which));
+                asked(at + "fits", x.fits(which), y.fits(which));
                 break;
             }
             case 3:
-                Check.due(at + "needed", x.needed(), y.needed());
+                asked(at + "needed", x.needed(), y.needed());
                 break;
             case 4: {
                 int above = random.nextBoolean() ? -1 : random.nextInt(9) == 0 ? near(0, 99) : 10 * Math.min(a, b) + Math.max(a, b);
-                Check.due(at + "swapped " + year + " " + above, x.swapped(year, above), y.swapped(year, above));
+                asked(at + "swapped " + year + " " + above, x.swapped(year, above), y.swapped(year, above));
                 break;
             }
             default: {
-                int set = random.nextInt(5) == 0 ? near(0, 1023) : near(0, (1 << Math.min(4, x.count(1))) - 1);
+                int set = random.nextInt(5) == 0 ? near(0, 1023) : near(0, (1 << Math.min(4, y.count(1))) - 1);
                 int years = 1000 * Math.min(year, later) + Math.max(year, later);
                 int most = random.nextBoolean() ? near(1, 9999) : near(1, 30);
                 int i = random.nextBoolean() ? -1 : near(0, 20);
-                Check.due(at + "stories " + set + " " + years + " " + most + " " + i,
+                asked(at + "stories " + set + " " + years + " " + most + " " + i,
                     x.stories(set, years, most, i), y.stories(set, years, most, i));
                 break;
             }
         }
     }
 
-    private String wordsAndWorth(String at) {
+    private void wordsAndWorth(String at) {
         int a = lump();
         int d = shelf(wordsAt);
         switch (random.nextInt(4)) {
             case 0:
-                return due(at + "words", x.words(d), y.words(d));
+                done(at + "words", x.words(d), y.words(d));
+                break;
             case 1:
-                Check.due(at + "one", x.one(), y.one());
-                return "";
+                asked(at + "one", x.one(), y.one());
+                break;
             case 2:
-                Check.due(at + "worth", x.worth(a), y.worth(a));
-                return "";
+                asked(at + "worth", x.worth(a), y.worth(a));
+                break;
             default:
-                Check.due(at + "moves", x.moves(a, d), y.moves(a, d));
-                return "";
+                asked(at + "moves", x.moves(a, d), y.moves(a, d));
+                break;
         }
     }
 
-    private String chains(String at) {
+    private void chains(String at) {
         int a = near(0, 3);
         int b = near(0, 3);
         switch (random.nextInt(5)) {
@@ -288,22 +342,26 @@ public final class RandomTest {
                 int part = flavour == 0 ? near(-999, 999) : near(-9, 9);
                 int doubt = doubt();
                 int year = year();
-                return due(at + "link", x.link(a, part, doubt, year), y.link(a, part, doubt, year));
+                done(at + "link", x.link(a, part, doubt, year), y.link(a, part, doubt, year));
+                break;
             }
             case 1: {
                 int what = near(0, 2);
-                Check.due(at + "chain", x.chain(a, what), y.chain(a, what));
-                return "";
+                asked(at + "chain", x.chain(a, what), y.chain(a, what));
+                break;
             }
             case 2:
-                return due(at + "agree", x.agree(a, b), y.agree(a, b));
+                asked(at + "agree", x.agree(a, b), y.agree(a, b));
+                break;
             case 3: {
                 int what = near(0, 1);
-                return due(at + "wrong", x.wrong(a, b, what), y.wrong(a, b, what));
+                asked(at + "wrong", x.wrong(a, b, what), y.wrong(a, b, what));
+                break;
             }
             default: {
                 int doubt = near(0, 150);
-                return due(at + "when", x.when(doubt), y.when(doubt));
+                asked(at + "when", x.when(doubt), y.when(doubt));
+                break;
             }
         }
     }
@@ -313,61 +371,66 @@ public final class RandomTest {
         int doubt = doubt();
         int n = near(0, 4);
         int what = near(0, 1);
-        Check.due(at + "plan", x.plan(d, doubt, n, what), y.plan(d, doubt, n, what));
+        asked(at + "plan", x.plan(d, doubt, n, what), y.plan(d, doubt, n, what));
     }
 
-    private String imageAndCount(String at) {
+    private void imageAndCount(String at) {
         int how = random.nextInt(8);
         if (how == 0) {
-            return due(at + "image", x.image(), y.image());
+            done(at + "image", x.image(), y.image());
+        } else if (how == 1) {
+            done(at + "restore", x.restore(), y.restore());
+        } else {
+            int what = near(0, 5);
+            asked(at + "count", x.count(what), y.count(what));
         }
-        if (how == 1) {
-            return due(at + "restore", x.restore(), y.restore());
-        }
-        int what = near(0, 5);
-        return due(at + "count", x.count(what), y.count(what));
     }
 
-    private String shelves(String at) {
+    private void shelves(String at) {
         int d = shelf();
         int i = near(0, random.nextBoolean() ? 5 : 100);
         switch (random.nextInt(7)) {
             case 0: {
                 int what = near(0, 1);
                 int k = lump();
-                return due(at + "keep", x.keep(d, what, k), y.keep(d, what, k));
+                done(at + "keep", x.keep(d, what, k), y.keep(d, what, k));
+                break;
             }
             case 1: {
                 int sort = near(0, 2);
                 int n = near(0, 100);
-                return due(at + "row", x.row(d, sort, n), y.row(d, sort, n));
+                done(at + "row", x.row(d, sort, n), y.row(d, sort, n));
+                break;
             }
             case 2: {
                 int v = random.nextBoolean() ? random.nextInt() : near(-128, 127);
-                return due(at + "put", x.put(d, i, v), y.put(d, i, v));
+                done(at + "put", x.put(d, i, v), y.put(d, i, v));
+                break;
             }
             case 3:
-                Check.due(at + "element", Check.element(x, d, i), y.element(d, i));
-                return "";
+                askedElement(at + "element", d, i);
+                break;
             case 4: {
                 int e = shelf();
                 int j = near(0, 20);
                 int n = near(0, 10);
-                return due(at + "copy", x.copy(d, i, e, j, n), y.copy(d, i, e, j, n));
+                done(at + "copy", x.copy(d, i, e, j, n), y.copy(d, i, e, j, n));
+                break;
             }
             case 5:
-                Check.due(at + "care", x.care(d), y.care(d));
-                return "";
+                asked(at + "care", x.care(d), y.care(d));
+                break;
             default:
-                return due(at + "toss", x.toss(d), y.toss(d));
+                asked(at + "toss", x.toss(d), y.toss(d));
+                break;
         }
     }
 
     private int rowOf(String at, int sort, int... elements) {
         int d = random.nextInt(8);
-        Check.due(at + "row", x.row(d, sort, elements.length), y.row(d, sort, elements.length));
+        same(at + "row", x.row(d, sort, elements.length), y.row(d, sort, elements.length));
         for (int i = 0; i < elements.length; i++) {
-            Check.due(at + "put", x.put(d, i, elements[i]), y.put(d, i, elements[i]));
+            same(at + "put", x.put(d, i, elements[i]), y.put(d, i, elements[i]));
         }
         return d;
     }
@@ -386,7 +449,7 @@ public final class RandomTest {
         int sort = random.nextInt(3);
         for (int i = 0; i + 5 <= told.length; i += 5) {
             told[i] = year();
-            int lumps = Math.max(2, x.count(1));
+            int lumps = Math.max(2, y.count(1));
             told[i + 1] = random.nextInt(lumps);
             told[i + 2] = random.nextInt(20) == 0 ? lump() : (told[i + 1] + 1 + random.nextInt(lumps - 1)) % lumps;
             told[i + 3] = flavour < 2 ? 7 * told[i + 1] - 7 * told[i + 2] + random.nextInt(3) - 1 : near(-40, 40);
@@ -397,13 +460,13 @@ public final class RandomTest {
         }
         toldAt = rowOf(at, sort, told);
         if (random.nextInt(3) > 0) {
-            Check.due(at + "hear", x.hear(toldAt), y.hear(toldAt));
+            same(at + "hear", x.hear(toldAt), y.hear(toldAt));
         }
     }
 
     private void fillPairs(String at) {
         int[] pairs = new int[random.nextInt(40) == 0 ? 9 : random.nextInt(9)];
-        int lumps = Math.max(2, x.count(1));
+        int lumps = Math.max(2, y.count(1));
         for (int i = 0; i < pairs.length; i++) {
             int a = random.nextInt(lumps);
             int b = (a + 1 + random.nextInt(lumps - 1)) % lumps;
