@@ -9,6 +9,7 @@ public final class ImageBoundsTest {
         p31NothingIsLeft();
         p31AtItsFullest();
         p31EachPart();
+        p31EachOne();
         p31AsOftenAsWanted();
         p31TheLastImage();
         p31ButShelves();
@@ -190,6 +191,53 @@ public final class ImageBoundsTest {
         back("LINKS", x -> x.link(3, 0, 0, 0));
         back("a LINK more", x -> x.link(0, 0, 0, 9));
         back("WORDS", x -> x.words(6));
+    }
+
+    /** Of all LUMPS, WEIGHINGS, LINKS, LANDS and HANDS something of their own, in YEAR 10. */
+    private static KeptLump eachOne() {
+        KeptLump x = new KeptLump();
+        for (int l = 0; l < 10; l++) {
+            x.lump(10 * (l % 8 == 1 && l > 1 ? 0 : l % 8) + l % 6, l - 5, l);
+        }
+        for (int i = 0; i < 6; i++) {
+            x.set(0, i, i);
+        }
+        for (int i = 0; i < 4; i++) {
+            x.set(1, i, 20 + i);
+        }
+        for (int l = 0; l < 10; l++) {
+            x.wash(l, 0);
+            x.wash(9 - l, l % 4);
+            x.go(1);
+        }
+        for (int w = 0; w < 20; w++) {
+            x.weigh(2 + w % 7, 9, w % 9, w);
+            x.out(w, w % 3 == 0);
+        }
+        for (int k = 0; k < 48; k++) {
+            x.link(k % 4, k, k % 7, k);
+        }
+        x.image();
+        return x;
+    }
+
+    private static void p31EachOne() {
+        Bounds.same("promise 31, 'RESTORED all is as it was then', each one", ImageBoundsTest::eachOne, x -> {
+            x.go(1);
+            for (int l = 0; l < 10; l++) {
+                x.wash(l, 1);
+            }
+            for (int w = 0; w < 20; w++) {
+                x.out(w, w % 3 != 0);
+            }
+            for (int i = 0; i < 6; i++) {
+                x.set(0, i, 9 - i);
+            }
+            for (int i = 0; i < 4; i++) {
+                x.set(1, i, 90 + i);
+            }
+            Check.due("promise 31, 'how many LUMPS'", x.restore(), 10);
+        });
     }
 
     private static void p31AsOftenAsWanted() {

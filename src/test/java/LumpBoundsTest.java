@@ -7,6 +7,7 @@ public final class LumpBoundsTest {
         p1NoLumpsYear0();
         p1AtFirst();
         p1NothingIsShared();
+        p1The512thCall();
         p2Kinds();
         p2Lands();
         p2Told();
@@ -113,6 +114,27 @@ public final class LumpBoundsTest {
         Check.due(s + "IMAGE", x.restore(), -3);
         Check.due(s + "SHELF", x.care(1), -1000000011);
         Check.due(s + "the other one", other.count(1), 6);
+    }
+
+    private static void p1The512thCall() {
+        String s = "'An object is used for at most 512 calls', the last one: ";
+        KeptLump x = one(0, 0, 0);
+        for (int k = 1; k <= 510; k++) {
+            Check.due("promise 5, washed " + k + " times", x.wash(0, k % 4), -10 * k);
+        }
+        Check.due(s + "how often", x.of(0, 5), 510);
+        x = new KeptLump();
+        for (int k = 1; k <= 255; k++) {
+            Check.due("promise 30", x.image(), 0);
+            Check.due("promise 31", x.restore(), 0);
+        }
+        x.image();
+        Check.due(s + "restore", x.restore(), 0);
+        x = new KeptLump();
+        for (int k = 1; k <= 511; k++) {
+            Check.due("promise 34", x.row(k % 8, k % 3, k % 101), 0);
+        }
+        Check.due(s + "put", x.put(7, 5, 5), 0);
     }
 
     // ---- promise 2

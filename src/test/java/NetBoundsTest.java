@@ -34,6 +34,7 @@ public final class NetBoundsTest {
         p19Most();
         p19WhichOne();
         p19GrewAndFell();
+        p19OfEachTwo();
         p19SeveralRefusals();
         Check.end("NetBoundsTest");
     }
@@ -486,6 +487,29 @@ public final class NetBoundsTest {
         let(5, 2);
         let(-4, 2, 5);
         let(-5, 2);
+    }
+
+    /** Of any two of ten LUMPS the first grew by 1 more. */
+    private static void p19OfEachTwo() {
+        for (int a = 0; a < 10; a++) {
+            for (int b = 0; b < 10; b++) {
+                if (a != b) {
+                    KeptLump x = net(10, 1, a, b, 50, 0, 9, a, b, 51, 0);
+                    int set = 1 << a | 1 << b;
+                    String s = "promise 19, of " + a + " and " + b;
+                    Check.due(s + ", how many", x.stories(set, 1009, 1, -1), 2);
+                    Check.due(s + ", the first", x.stories(set, 1009, 1, 0), a < b ? 1 : 2);
+                    Check.due(s + ", the second", x.stories(set, 1009, 1, 1), a < b ? 6 : 3);
+                }
+            }
+        }
+        KeptLump x = net(10, 1, 3, 5, 0, 0, 1, 6, 9, 0, 0, 9, 3, 5, 2, 0, 9, 6, 9, 0, 0);
+        int set = 1 << 3 | 1 << 5 | 1 << 6 | 1 << 9;
+        int[] let = {7, 7 + 9 + 27, 7 + 18 + 54};
+        Check.due("promise 19, of four, how many", x.stories(set, 1009, 1, -1), let.length);
+        for (int i = 0; i < let.length; i++) {
+            Check.due("promise 19, of four, the " + i + "th", x.stories(set, 1009, 1, i), let[i]);
+        }
     }
 
     private static void p19SeveralRefusals() {

@@ -74,6 +74,9 @@ public final class WordBoundsTest {
             {"0:(", ATOMS}, {"0:(P", SIGNS + ")"}, {"0:(7", DIGITS + SIGNS + ")"}, {"0:(0", SIGNS + ")"}, {"0:(700", SIGNS + ")"},
             {"0:(P)", SIGNS + ";"}, {"0:(P+", ATOMS}, {"0:(P)/", ATOMS}, {"0:((P)", SIGNS + ")"}, {"0:((P))", SIGNS + ";"},
             {"0:(((((", ATOMS}, {"0:((((((", DIGITS + "Pmoc"}, {"0:((((((P", SIGNS + ")"}, {"0:((((((P+", DIGITS + "Pmoc"},
+            {"0:((((((P-", DIGITS + "Pmoc"}, {"0:((((((P*", DIGITS + "Pmoc"}, {"0:((((((P/", DIGITS + "Pmoc"},
+            {"0:(((((P*", ATOMS}, {"0:(((((P+", ATOMS}, {"0:(((((P/(", DIGITS + "Pmoc"}, {"0:(((((P-(", DIGITS + "Pmoc"},
+            {"0:P*((((((", DIGITS + "Pmoc"}, {"0:P*(((((", ATOMS}, {"0:P*((((((P*", DIGITS + "Pmoc"}, {"0:((((((P)+P*", ATOMS},
             {"0:((((((P)", SIGNS + ")"}, {"0:((((((P)*", ATOMS}, {"0:((((((P))))))", SIGNS + ";"}, {"0:((((((P))))))-", ATOMS},
             {"0:P;", DIGITS}, {"0:P;0", ":"}, {"0:P;7", DIGITS + ":"}, {"0:P;7:", ATOMS}, {"0:P;7:P", SIGNS + ";"},
         };
