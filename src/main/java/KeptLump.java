@@ -364,7 +364,7 @@ public final class KeptLump {
         if (!state.lumps.has(lump)) {
             return FAR_BELOW + NO_SUCH;
         }
-        return state.lumps.weight[lump] - one();
+        return state.lumps.weight[lump] - reader.read(state.law.text, state.law.size, state);
     }
 
     public int moves(int lump, int d) {
@@ -376,11 +376,12 @@ public final class KeptLump {
             return FAR_BELOW + refusal;
         }
         Shelf row = shelves[d];
-        int inMind = state.lumps.weight[lump] - reader.read(row.elements, row.size, state);
+        int inMind = reader.read(row.elements, row.size, state);
         if (reader.faultTold() != 0) {
             return FAR_BELOW + reader.faultTold();
         }
-        return inMind - worth(lump);
+        // The weight stands in both worths and falls out; asking worth and one would go too deep (rule 11).
+        return reader.read(state.law.text, state.law.size, state) - inMind;
     }
 
     // ---- chains, plans
